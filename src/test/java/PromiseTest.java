@@ -208,6 +208,22 @@ public final class PromiseTest {
         due("told(5)", y.told(5), 1000100 - 2 * 19);
         due("told(9)", y.told(9), 1000100 - 2 * 10);
         due("told(9) leaves the WIDTHS", y.at(1, 3), 2);
+        // each of the WIRES, the last one too, has to be wide
+        RepeaterWires z = new RepeaterWires();
+        z.pull(0);
+        for (int v = 1; v < 6; v++) z.node(0, 5, 0);
+        due("told(5)", z.told(5), 1000090);
+        due("told(9)", z.told(9), 1000095);
+        for (int v = 1; v < 5; v++) z.wire(v, 5, 0, 2);
+        due("told(5)", z.told(5), 1000090);
+        due("told(6)", z.told(6), 5);
+        z.kind(3, 1, 0, 0, 8, 0);
+        z.end(5, 9, 100, 0);
+        due("told(5)", z.told(5), 1000010);
+        due("told(10)", z.told(10), 53);
+        due("change()", z.change(), 1000090);
+        due("at(5, 7)", z.at(5, 7), 3);
+        due("drop(3)", z.drop(3), NOT);
     }
 
     private static void at() {
@@ -321,6 +337,11 @@ public final class PromiseTest {
         rowIs(x, 1, 0, 3, 88, 5, 5, 100, 0);
         x.wire(1, 1, 1, 2);
         rowIs(x, 0, 0, 5, 88 - 1 - 3, 5, 7, 100 - 1 - 5, 0);
+        // the better one of like SHOWS and COST first, then the lesser one; and KIND 3 is looked at, too
+        x.kind(1, 3, 1, 1, 6, 0);
+        x.kind(2, 3, 1, 2, 6, 0);
+        x.kind(3, 1, 0, 0, 9, 0);
+        rowIs(x, 1, 0, 1, 100, 9, 3, 89, 6, 5, 100, 0);
     }
 
     private static void points() {
@@ -546,6 +567,11 @@ public final class PromiseTest {
         due("told(3)", x.told(3), 0);
         due("undo(1)", x.undo(1), 10);
         due("told(3)", x.told(3), 2);
+        x.place(1, 1);
+        due("drop(1), PLACED at 1", x.drop(1), NOT);
+        x.place(1, 0);
+        due("drop(1)", x.drop(1), 0);
+        x.undo(3);
         due("kindAt(1, 3)", x.kindAt(1, 3), 7);
     }
 
