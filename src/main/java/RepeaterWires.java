@@ -752,15 +752,9 @@ public final class RepeaterWires {
 
         /** This one, made anew if that Net may be another one now. */
         Choices of(Net net) {
-            if (!fresh) {
-                makeRows(net);
-                pickPoints(net);
-                fresh = true;
+            if (fresh) {
+                return this;
             }
-            return this;
-        }
-
-        private void makeRows(Net net) {
             int ends = net.ends();
             for (int v = net.size - 1; v >= 0; v--) {
                 boolean isEnd = (ends >> v & 1) == 1;
@@ -774,6 +768,9 @@ public final class RepeaterWires {
                     equip(net, v, 1);
                 }
             }
+            pickPoints(net);
+            fresh = true;
+            return this;
         }
 
         /** What NODE v BEARS, the SLACK from there, the COST of all below it, if it is turned (t 1) behind v or not. */

@@ -609,7 +609,9 @@ public final class PromiseTest {
         due("at(3, 0)", x.at(3, 0), UNKNOWN);
         due("take()", x.take(), 2);
         due("told(1)", x.told(1), 2);
+        due("told(6)", x.told(6), 1);
         due("take()", x.take(), 1);
+        due("told(6), no ENDS any more", x.told(6), NONE);
         due("told(5)", x.told(5), 1900000);
         due("told(6)", x.told(6), NONE);
         due("take()", x.take(), NOT);
