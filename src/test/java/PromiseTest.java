@@ -1,17 +1,5 @@
 /** For each promise of the document: ordinary inputs, the edges that it names, and wrong inputs, with answers worked out by hand. */
-public final class PromiseTest {
-    private static final int NONE = -1;
-    private static final int UNKNOWN = -1000000001;
-    private static final int OUTSIDE = -1000000002;
-    private static final int NOT = -1000000003;
-    private static final int FULL = -1000000004;
-    private static final int MIN = Integer.MIN_VALUE;
-    private static final int MAX = Integer.MAX_VALUE;
-
-    private static int promise = 0;
-    private static int passed = 0;
-    private static int failed = 0;
-
+public final class PromiseTest extends Sheet {
     public static void main(String[] args) {
         constants();
         newObject();
@@ -40,120 +28,11 @@ public final class PromiseTest {
         seed();
         images();
         refusalsChangeNothing();
-        System.out.println("PromiseTest: " + passed + " passed, " + failed + " failed");
-        if (failed != 0) System.exit(1);
-    }
-
-    private static void due(String call, int got, int want) {
-        if (got == want) {
-            passed++;
-        } else {
-            failed++;
-            System.out.println("promise " + promise + ": " + call + " answered " + got + ", due is " + want);
-        }
-    }
-
-    private static void same(String call, String got, String want) {
-        if (got.equals(want)) {
-            passed++;
-        } else {
-            failed++;
-            System.out.println("promise " + promise + ": " + call + " left\n  " + got + "\n  due is\n  " + want);
-        }
-    }
-
-    private static void toldAll(RepeaterWires x, int... want) {
-        for (int what = 0; what < want.length; what++) due("told(" + what + ")", x.told(what), want[what]);
-    }
-
-    private static void atAll(RepeaterWires x, int v, int... want) {
-        for (int what = 0; what < want.length; what++) due("at(" + v + ", " + what + ")", x.at(v, what), want[what]);
-    }
-
-    /** Triples in their order: what is shown, SLACK without PLUS, COST. */
-    private static void rowIs(RepeaterWires x, int v, int t, int... want) {
-        String row = "(" + v + ", " + t;
-        due("candidates" + row + ")", x.candidates(v, t), want.length / 3);
-        for (int j = 0; j < want.length; j++) {
-            int plus = j % 3 == 1 ? 1000000 : 0;
-            due("candidate" + row + ", " + j / 3 + ", " + j % 3 + ")", x.candidate(v, t, j / 3, j % 3), want[j] + plus);
-        }
-        due("candidate" + row + ", behind the last)", x.candidate(v, t, want.length / 3, 0), UNKNOWN);
-        due("candidate" + row + ", -1)", x.candidate(v, t, -1, 0), UNKNOWN);
-    }
-
-    /** Pairs in their order: COST, SLACK without PLUS. */
-    private static void pointsAre(RepeaterWires x, int... want) {
-        due("told(8)", x.told(8), want.length / 2);
-        for (int i = 0; i < want.length / 2; i++) {
-            due("point(" + i + ", 0)", x.point(i, 0), want[2 * i]);
-            due("point(" + i + ", 1)", x.point(i, 1), want[2 * i + 1] + 1000000);
-        }
-        due("point(behind the last, 0)", x.point(want.length / 2, 0), UNKNOWN);
-        due("point(behind the last, 1)", x.point(want.length / 2, 1), UNKNOWN);
-    }
-
-    /** All that told(), at() and kindAt() tell. */
-    private static String picture(RepeaterWires x) {
-        StringBuilder s = new StringBuilder();
-        for (int what = 0; what <= 14; what++) s.append(x.told(what)).append(' ');
-        for (int v = 0; v < 6; v++) {
-            for (int what = 0; what <= 12; what++) s.append(x.at(v, what)).append(' ');
-        }
-        for (int k = 0; k <= 4; k++) {
-            for (int what = 0; what <= 4; what++) s.append(x.kindAt(k, what)).append(' ');
-        }
-        return s.toString();
-    }
-
-    /** All of section 1, by few calls: an object has 512 of them. */
-    private static String section1(RepeaterWires x) {
-        StringBuilder s = new StringBuilder();
-        for (int what = 0; what <= 4; what++) s.append(x.told(what)).append(' ');
-        for (int v = 0; v < 6; v++) {
-            for (int what = 0; what <= 7; what++) s.append(x.at(v, what)).append(' ');
-        }
-        for (int k = 1; k <= 3; k++) {
-            for (int what = 0; what <= 4; what++) s.append(x.kindAt(k, what)).append(' ');
-        }
-        return s.toString();
-    }
-
-    /**
-     * SOURCE - 1 - { 2, 3 }: END 2 as it is, END 3 turned; KIND 1 leaves things as they are, KIND 2 turns them.
-     * BEARS 13, 10, 4, 2; TIME 26, 72, 84, 92.
-     */
-    private static RepeaterWires branched() {
-        RepeaterWires x = new RepeaterWires();
-        x.node(0, 2, 3);
-        x.node(1, 1, 4);
-        x.node(1, 5, 0);
-        x.end(2, 4, 50, 0);
-        x.end(3, 2, 60, 1);
-        x.kind(1, 2, 1, 3, 7, 0);
-        x.kind(2, 1, 2, 5, 4, 1);
-        return x;
-    }
-
-    /** Two ENDS like each other, right at the SOURCE, all TIMES 0, whatever is placed; three KINDS that do nothing. */
-    private static RepeaterWires twins(int cost1, int cost2, int cost3) {
-        RepeaterWires x = new RepeaterWires();
-        x.pull(0);
-        x.node(0, 0, 0);
-        x.node(0, 0, 0);
-        x.kind(1, 1, 0, 0, cost1, 0);
-        x.kind(2, 1, 0, 0, cost2, 0);
-        x.kind(3, 1, 0, 0, cost3, 0);
-        return x;
-    }
-
-    /** A NODE BY DRAWS that is an END: ABOVE, R, C, LOAD, NEED, WANTS; its WIDTH is 1, nothing is PLACED. */
-    private static void drawn(RepeaterWires x, int v, int above, int r, int c, int load, int need, int wants) {
-        atAll(x, v, above, r, c, 1, load, need, wants, 0);
+        finish("PromiseTest");
     }
 
     private static void constants() {
-        promise = 1;
+        about = "promise 1";
         due("NONE", RepeaterWires.NONE, -1);
         due("PLUS", RepeaterWires.PLUS, 1000000);
         due("NEVER", RepeaterWires.NEVER, 900000);
@@ -164,7 +43,7 @@ public final class PromiseTest {
     }
 
     private static void newObject() {
-        promise = 1;
+        about = "promise 1";
         RepeaterWires x = new RepeaterWires();
         toldAll(x, 1, 0, 1, 0, 0, 1900000, NONE, 0, 1, 1900000, NONE, 0, NONE, 0, 0);
         atAll(x, 0, NONE, NONE, NONE, NONE, NONE, NONE, NONE, 0, 0, 0, 0, NONE, 0);
@@ -181,7 +60,7 @@ public final class PromiseTest {
     }
 
     private static void told() {
-        promise = 2;
+        about = "promise 2";
         RepeaterWires x = branched();
         toldAll(x, 4, 12, 1, 6, 0, 999966, 2, 8, 3, 999980, 11, 0, NONE, 7, 0);
         x.place(3, 2);
@@ -195,7 +74,7 @@ public final class PromiseTest {
     }
 
     private static void toldTies() {
-        promise = 2;
+        about = "promise 2";
         RepeaterWires x = twins(5, 5, 9);
         due("told(6), both ENDS alike", x.told(6), 1);
         x.end(1, 1, 101, 0);
@@ -227,7 +106,7 @@ public final class PromiseTest {
     }
 
     private static void at() {
-        promise = 3;
+        about = "promise 3";
         RepeaterWires x = branched();
         atAll(x, 0, NONE, NONE, NONE, NONE, NONE, NONE, NONE, 0, 13, 13, 26, NONE, 0);
         atAll(x, 1, 0, 2, 3, 1, NONE, NONE, NONE, 0, 10, 10, 72, NONE, 0);
@@ -254,7 +133,7 @@ public final class PromiseTest {
     }
 
     private static void kindAt() {
-        promise = 4;
+        about = "promise 4";
         RepeaterWires x = branched();
         int[] first = {2, 1, 3, 7, 0};
         int[] second = {1, 2, 5, 4, 1};
@@ -275,7 +154,7 @@ public final class PromiseTest {
     }
 
     private static void candidates() {
-        promise = 6;
+        about = "promise 6";
         RepeaterWires x = branched();
         rowIs(x, 3, 0, 1, 47, 4);
         rowIs(x, 3, 1, 2, 60, 0);
@@ -297,7 +176,7 @@ public final class PromiseTest {
         due("candidate(0, 0, MIN, 0)", x.candidate(0, 0, MIN, 0), UNKNOWN);
         due("candidate(0, 0, 2, 3)", x.candidate(0, 0, 2, 3), OUTSIDE);
         due("candidate(0, 0, 2, -1)", x.candidate(0, 0, 2, -1), OUTSIDE);
-        promise = 5;
+        about = "promise 5";
         due("candidates(4, 0)", x.candidates(4, 0), UNKNOWN);
         due("candidates(4, 2)", x.candidates(4, 2), UNKNOWN);
         due("candidates(-1, 0)", x.candidates(-1, 0), UNKNOWN);
@@ -316,7 +195,7 @@ public final class PromiseTest {
     }
 
     private static void candidatesOfChains() {
-        promise = 6;
+        about = "promise 6";
         // three numbers alike by two KINDS: told once
         RepeaterWires x = new RepeaterWires();
         x.node(0, 1, 1);
@@ -345,7 +224,7 @@ public final class PromiseTest {
     }
 
     private static void points() {
-        promise = 7;
+        about = "promise 7";
         RepeaterWires x = branched();
         pointsAre(x, 4, -29, 8, -28, 11, -8);
         x.pull(0);
@@ -365,7 +244,7 @@ public final class PromiseTest {
 
     private static void bestAndLeast() {
         RepeaterWires x = branched();
-        promise = 8;
+        about = "promise 8";
         due("best(-1)", x.best(-1), OUTSIDE);
         due("best(MIN)", x.best(MIN), OUTSIDE);
         due("best(0)", x.best(0), NONE);
@@ -376,7 +255,7 @@ public final class PromiseTest {
         due("best(10)", x.best(10), 999972);
         due("best(11)", x.best(11), 999992);
         due("best(MAX)", x.best(MAX), 999992);
-        promise = 9;
+        about = "promise 9";
         due("least(MIN)", x.least(MIN), 4);
         due("least(-29)", x.least(-29), 4);
         due("least(-28)", x.least(-28), 8);
@@ -394,7 +273,7 @@ public final class PromiseTest {
     }
 
     private static void would() {
-        promise = 10;
+        about = "promise 10";
         RepeaterWires x = branched();
         String was = picture(x);
         due("would(1, 1)", x.would(1, 1), 999991);
@@ -414,7 +293,7 @@ public final class PromiseTest {
     }
 
     private static void node() {
-        promise = 11;
+        about = "promise 11";
         RepeaterWires x = new RepeaterWires();
         due("node(1, 0, 0)", x.node(1, 0, 0), UNKNOWN);
         due("node(-1, 10, 0)", x.node(-1, 10, 0), UNKNOWN);
@@ -446,7 +325,7 @@ public final class PromiseTest {
     }
 
     private static void end() {
-        promise = 12;
+        about = "promise 12";
         RepeaterWires x = branched();
         due("end(4, 1, 1, 0)", x.end(4, 1, 1, 0), UNKNOWN);
         due("end(-1, 0, 1, 0)", x.end(-1, 0, 1, 0), UNKNOWN);
@@ -482,7 +361,7 @@ public final class PromiseTest {
     }
 
     private static void wire() {
-        promise = 13;
+        about = "promise 13";
         RepeaterWires x = branched();
         due("wire(3, 5, 0, 2)", x.wire(3, 5, 0, 2), 82);
         due("wire(3, 5, 0, 1)", x.wire(3, 5, 0, 1), 92);
@@ -506,7 +385,7 @@ public final class PromiseTest {
     }
 
     private static void pull() {
-        promise = 14;
+        about = "promise 14";
         RepeaterWires x = branched();
         due("pull(0)", x.pull(0), 1);
         due("at(0, 10)", x.at(0, 10), 0);
@@ -522,7 +401,7 @@ public final class PromiseTest {
     }
 
     private static void kind() {
-        promise = 15;
+        about = "promise 15";
         RepeaterWires x = branched();
         due("kind(3, 9, 9, 99, 99, 1)", x.kind(3, 9, 9, 99, 99, 1), 0);
         due("told(3)", x.told(3), 14);
@@ -546,7 +425,7 @@ public final class PromiseTest {
     }
 
     private static void drop() {
-        promise = 16;
+        about = "promise 16";
         RepeaterWires x = branched();
         due("drop(3)", x.drop(3), UNKNOWN);
         due("drop(0)", x.drop(0), UNKNOWN);
@@ -576,7 +455,7 @@ public final class PromiseTest {
     }
 
     private static void place() {
-        promise = 17;
+        about = "promise 17";
         RepeaterWires x = branched();
         due("place(1, 1)", x.place(1, 1), 0);
         due("at(1, 7)", x.at(1, 7), 1);
@@ -602,7 +481,7 @@ public final class PromiseTest {
     }
 
     private static void take() {
-        promise = 18;
+        about = "promise 18";
         RepeaterWires x = branched();
         due("take()", x.take(), 3);
         due("told(1)", x.told(1), 4);
@@ -624,7 +503,7 @@ public final class PromiseTest {
     }
 
     private static void change() {
-        promise = 19;
+        about = "promise 19";
         RepeaterWires x = branched();
         due("change()", x.change(), 999991);
         due("at(1, 7)", x.at(1, 7), 1);
@@ -656,7 +535,7 @@ public final class PromiseTest {
     }
 
     private static void changeTies() {
-        promise = 19;
+        about = "promise 19";
         due("told(10), all like: least NODE, then KIND", twins(5, 5, 9).told(10), 11);
         due("told(10), like SLACK: least COST", twins(5, 3, 9).told(10), 12);
         RepeaterWires x = twins(5, 3, 9);
@@ -678,7 +557,7 @@ public final class PromiseTest {
     }
 
     private static void drift() {
-        promise = 20;
+        about = "promise 20";
         RepeaterWires x = new RepeaterWires();
         due("drift(0)", x.drift(0), OUTSIDE);
         due("drift(7)", x.drift(7), OUTSIDE);
@@ -707,7 +586,7 @@ public final class PromiseTest {
     }
 
     private static void undo() {
-        promise = 21;
+        about = "promise 21";
         RepeaterWires x = branched();
         due("undo(0)", x.undo(0), OUTSIDE);
         due("undo(17)", x.undo(17), OUTSIDE);
@@ -762,7 +641,7 @@ public final class PromiseTest {
     }
 
     private static void book() {
-        promise = 22;
+        about = "promise 22";
         RepeaterWires x = branched();
         due("write(4, 0)", x.write(4, 0), UNKNOWN);
         due("write(-1, 0)", x.write(-1, 0), UNKNOWN);
@@ -782,12 +661,12 @@ public final class PromiseTest {
         x.take();
         // less load now: every TIME is another
         due("told(12)", x.told(12), 0);
-        promise = 23;
+        about = "promise 23";
         due("tear()", x.tear(), 5);
         due("told(11)", x.told(11), 0);
         due("told(12)", x.told(12), NONE);
         due("tear()", x.tear(), 0);
-        promise = 22;
+        about = "promise 22";
         x.undo(1);
         x.pull(0);
         x.wire(1, 0, 0, 1);
@@ -809,7 +688,7 @@ public final class PromiseTest {
     }
 
     private static void seed() {
-        promise = 24;
+        about = "promise 24";
         RepeaterWires x = new RepeaterWires();
         due("seed(5)", x.seed(5), 0);
         due("told(14)", x.told(14), 5);
@@ -824,7 +703,7 @@ public final class PromiseTest {
     }
 
     private static void images() {
-        promise = 25;
+        about = "promise 25";
         RepeaterWires x = branched();
         x.seed(99);
         x.write(0, 26);
@@ -837,7 +716,7 @@ public final class PromiseTest {
         due("told(13)", x.told(13), 0);
         due("undo(1)", x.undo(1), NOT);
         same("keep(0)", section1(x), was);
-        promise = 26;
+        about = "promise 26";
         due("goBack(1)", x.goBack(1), NOT);
         due("goBack(2)", x.goBack(2), UNKNOWN);
         due("goBack(-1)", x.goBack(-1), UNKNOWN);
@@ -889,7 +768,7 @@ public final class PromiseTest {
     }
 
     private static void refusalsChangeNothing() {
-        promise = 0;
+        about = "what is refused";
         RepeaterWires x = branched();
         x.place(3, 2);
         x.write(2, 1);
