@@ -2,8 +2,14 @@ import java.util.Random;
 
 /** Runs by draws, each call asked of the class and of the Oracle; the draws are fixed, so each run is the same each time. */
 public final class AgainstOracleTest {
+    // what an object answers beyond so many calls is free
+    private static final int MOST_CALLS = 512;
+    // deeds that make a full net
+    private static final int NET_CALLS = 19;
+
     private static int passed = 0;
     private static int failed = 0;
+    private static int calls = 0;
 
     public static void main(String[] args) {
         int runs = args.length > 0 ? Integer.parseInt(args[0]) : 40;
@@ -27,23 +33,49 @@ public final class AgainstOracleTest {
         int wrongs = run % 4 == 0 ? 0 : run % 4 == 1 ? 6 : 40;
         // few nodes in some runs: those have room for more calls in the same time
         int most = run % 3 == 0 ? 6 : 4;
-        for (int call = 0; call < 512; call++) {
+        calls = 0;
+        while (calls < MOST_CALLS) {
+            calls++;
             String asked = ask(x, y, dice, wrongs, most);
             if (asked != null) {
                 failed++;
-                System.out.println("run " + run + ", call " + call + ": " + asked);
+                System.out.println("run " + run + ", call " + calls + ": " + asked);
                 return;
             }
             passed++;
         }
     }
 
-    /** Six NODES, three KINDS: all that can be had is compared as a whole. */
+    /** Six NODES, three KINDS: all that can be had is compared as a whole, each row of it with an object of its own. */
     private static void oneFullNet(int net) {
-        Random d = new Random(net * 7919L);
+        String wrong = null;
+        for (int v = 0; v < 6 && wrong == null; v++) {
+            for (int t = 0; t < 2 && wrong == null; t++) {
+                RepeaterWires x = new RepeaterWires();
+                Oracle y = new Oracle();
+                tellFullNet(net, x, y);
+                wrong = sameRow(x, y, v, t);
+            }
+        }
         RepeaterWires x = new RepeaterWires();
         Oracle y = new Oracle();
-        String wrong = tell("pull", x.pull(net % 10), y.pull(net % 10));
+        tellFullNet(net, x, y);
+        for (int what = 0; what <= 14 && wrong == null; what++) {
+            wrong = tell("told(" + what + ")", x.told(what), y.told(what));
+        }
+        if (wrong == null) wrong = samePoints(x, y);
+        if (wrong == null) {
+            passed++;
+        } else {
+            failed++;
+            System.out.println("full net " + net + ": " + wrong);
+        }
+    }
+
+    private static void tellFullNet(int net, RepeaterWires x, Oracle y) {
+        Random d = new Random(net * 7919L);
+        x.pull(net % 10);
+        y.pull(net % 10);
         boolean turning = net % 3 != 0;
         for (int v = 1; v < 6; v++) {
             // a chain, a star, or by draws
@@ -63,19 +95,7 @@ public final class AgainstOracleTest {
             x.kind(k, in, p, own, cost, turns);
             y.kind(k, in, p, own, cost, turns);
         }
-        for (int v = 0; v < 6 && wrong == null; v++) {
-            for (int t = 0; t < 2 && wrong == null; t++) wrong = sameRow(x, y, v, t);
-        }
-        for (int what = 0; what <= 14 && wrong == null; what++) {
-            wrong = tell("told(" + what + ")", x.told(what), y.told(what));
-        }
-        if (wrong == null) wrong = samePoints(x, y);
-        if (wrong == null) {
-            passed++;
-        } else {
-            failed++;
-            System.out.println("full net " + net + ": " + wrong);
-        }
+        calls = NET_CALLS;
     }
 
     private static String samePoints(RepeaterWires x, Oracle y) {
@@ -155,6 +175,8 @@ public final class AgainstOracleTest {
 
     private static String sameRow(RepeaterWires x, Oracle y, int v, int t) {
         java.util.List<Oracle.Three> all = y.now.candidates(v, t);
+        calls += 3 * all.size() + 1;
+        if (calls > MOST_CALLS) return null;
         for (int j = 0; j < all.size(); j++) {
             Oracle.Three three = all.get(j);
             boolean same = x.candidate(v, t, j, 0) == three.shows() && x.candidate(v, t, j, 2) == three.cost()

@@ -43,6 +43,7 @@ public final class PastEdgeTest extends Sheet {
         sentence("UNDONE: take()", () -> oneUndone("take", x -> x.take()));
         sentence("UNDONE: change()", () -> oneUndone("change", x -> x.change()));
         sentence("UNDONE: each NODE BY DRAWS", PastEdgeTest::eachNodeByDrawsUndone);
+        sentence("all of section 1 is as ahead of them", PastEdgeTest::allOfSection1Undone);
         sentence("UNDONE: the latest deeds", PastEdgeTest::latestFirst);
         sentence("deeds: no others are", PastEdgeTest::noOtherDeeds);
         sentence("deeds: one that leaves all as it was is one", PastEdgeTest::deedsThatChangeNothing);
@@ -276,6 +277,8 @@ public final class PastEdgeTest extends Sheet {
         deed.accept(x);
         due("told(13) behind " + name, x.told(13), 8);
         if (section1(x).equals(was)) due(name + " did nothing", 0, 1);
+        // what can be had is asked ahead of it, so that it must be found anew behind it
+        x.told(8);
         due("undo(1)", x.undo(1), 7);
         same("undo(1) of " + name, section1(x), was);
         due("told(5)", x.told(5), PLUS - 34);
@@ -300,6 +303,59 @@ public final class PastEdgeTest extends Sheet {
             due("told(0)", x.told(0), left + 1);
         }
         due("undo(1)", x.undo(1), NOT);
+    }
+
+    /** Six NODES and three KINDS with numbers of their own each; by so many deeds all of them become others. */
+    private static RepeaterWires varied() {
+        RepeaterWires x = chain(5, 1, 1);
+        for (int v = 1; v <= 5; v++) {
+            x.wire(v, 9 - v, v, 1 + v % 2);
+            x.end(v, 10 - v, 90 + v, v % 2);
+        }
+        for (int k = 1; k <= 3; k++) x.kind(k, 10 - k, 5 + k, 30 + k, 60 + k, k % 2);
+        for (int v = 1; v <= 5; v++) x.place(v, 1 + v % 3);
+        x.pull(4);
+        return x;
+    }
+
+    /** The NODES from 1 on, that are no ENDS, show what was told of them as those behind them are taken. */
+    private static String section1AndTaken(RepeaterWires x) {
+        StringBuilder all = new StringBuilder(section1(x));
+        while (x.take() != NOT) {
+            int v = x.told(0) - 1;
+            for (int what = 0; what <= 7; what++) all.append(x.at(v, what)).append(' ');
+        }
+        return all.toString();
+    }
+
+    private static void varyAll(RepeaterWires x) {
+        for (int v = 1; v <= 5; v++) x.wire(v, v, 9 - v, 2 - v % 2);
+        for (int v = 1; v <= 5; v++) x.end(v, v, 20 + v, 1 - v % 2);
+        for (int k = 1; k <= 3; k++) x.kind(k, k, k, k, k, 1 - k % 2);
+        x.pull(5);
+    }
+
+    /** All NODES but the SOURCE go, and as many come, each BELOW another one than ahead of that. */
+    private static void standOtherwise(RepeaterWires x) {
+        for (int v = 1; v <= 5; v++) x.take();
+        for (int v = 1; v <= 5; v++) x.node(Math.max(0, v - 2), 0, 0);
+    }
+
+    private static void allOfSection1Undone() {
+        String want = section1AndTaken(varied());
+        RepeaterWires x = varied();
+        varyAll(x);
+        due("undo(14)", x.undo(14), 2);
+        same("undo(14)", section1AndTaken(x), want);
+        RepeaterWires y = varied();
+        standOtherwise(y);
+        due("undo(10)", y.undo(10), 6);
+        same("undo(10)", section1AndTaken(y), want);
+        RepeaterWires z = varied();
+        for (int v = 1; v <= 5; v++) z.place(v, 0);
+        for (int k = 1; k <= 3; k++) z.drop(k);
+        due("undo(8)", z.undo(8), 8);
+        same("undo(8)", section1AndTaken(z), want);
     }
 
     private static void latestFirst() {
@@ -490,11 +546,21 @@ public final class PastEdgeTest extends Sheet {
         x.pull(9);
         String second = section1(x);
         x.keep(1);
+        x.told(8);
         x.goBack(0);
         same("goBack(0)", section1(x), first);
         pointsAre(x, 4, -29, 8, -28, 11, -8);
         x.goBack(1);
         same("goBack(1)", section1(x), second);
+        // every number of every NODE and KIND, of those too that are no ENDS
+        for (int i = 0; i <= 1; i++) {
+            RepeaterWires y = varied();
+            y.keep(i);
+            varyAll(y);
+            standOtherwise(y);
+            y.goBack(i);
+            same("goBack(" + i + ")", section1AndTaken(y), section1AndTaken(varied()));
+        }
     }
 
     private static void imageOfTheSeed() {

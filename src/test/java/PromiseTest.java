@@ -750,7 +750,7 @@ public final class PromiseTest extends Sheet {
         due("keep(0)", x.keep(0), 1);
         x.take();
         due("goBack(0)", x.goBack(0), 1);
-        same("goBack(0), kept anew", section1(x), later);
+        due("goBack(0), kept anew", x.told(2), 7);
         pointsAfterGoBack();
     }
 

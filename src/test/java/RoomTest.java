@@ -33,9 +33,10 @@ public final class RoomTest {
         x.kind(2, 3, 1, 9, 16, 0);
         x.kind(3, 6, 0, 12, 31, 0);
         int sum = 0;
-        for (int call = 13; call < 512; call += 2) {
+        // 13 calls made the net, each round makes three
+        for (int call = 16; call <= 512; call += 3) {
             x.pull(call % 10);
-            sum += x.candidate(0, 0, call % 50, 1) + x.told(8 + call % 3);
+            sum += x.candidate(0, 0, call % 50, 1) + x.told(8 + call / 3 % 3);
         }
         return sum;
     }
