@@ -6,7 +6,9 @@ import java.nio.file.Files;
 import java.nio.file.Path;
 import java.util.ArrayList;
 import java.util.List;
+import java.util.Map;
 import java.util.Set;
+import java.util.TreeMap;
 import java.util.TreeSet;
 import java.util.regex.Matcher;
 import java.util.regex.Pattern;
@@ -29,7 +31,9 @@ public final class LanguageTest {
     public static void main(String[] args) throws IOException {
         String code = withoutComments(Files.readString(SOURCE));
         words(code);
+        library(code);
         lengths(code);
+        depth(code);
         face();
         for (Class<?> inside : RepeaterWires.class.getDeclaredClasses()) insideClass(inside);
         ok("at most twelve classes", RepeaterWires.class.getDeclaredClasses().length < 12);
@@ -65,6 +69,54 @@ public final class LanguageTest {
         Matcher divisions = Pattern.compile("[/%]=?\\s*([^\\s;)\\]]+)").matcher(code);
         Set<String> divisors = Set.of("10", "65536", "MOST_DEEDS", "n");
         while (divisions.find()) ok("divides by " + divisions.group(1), divisors.contains(divisions.group(1)));
+    }
+
+    private static void library(String code) {
+        Set<String> allowed = Set.of("System.arraycopy", "Arrays.copyOf", "Arrays.copyOfRange", "Arrays.fill", "Math.max",
+                "Math.min", "Math.abs", "Math.floorDiv", "Math.floorMod", "Integer.bitCount", "Integer.compare");
+        Matcher used = Pattern.compile("(?<![\\w.])(System|Arrays|Math|Integer|Long|List|String|Character|Objects)\\.\\w+").matcher(code);
+        while (used.find()) ok("the library: " + used.group(), allowed.contains(used.group()));
+        ok("no float, no double", !Pattern.compile("\\b(float|double|Float|Double)\\b").matcher(code).find());
+        ok("no texts", !code.contains("\""));
+        // what throws if it is not looked at first: none is in the class, so none needs a test ahead of it
+        ok("no cast but to int", !Pattern.compile("\\((?!int\\))[A-Za-z]\\w*(\\[\\])*\\) ?[\\w(]").matcher(code).find());
+        ok("no null", !Pattern.compile("\\bnull\\b").matcher(code).find());
+        Matcher rows = Pattern.compile("new \\w+\\[([^\\]]*)\\]").matcher(code);
+        while (rows.find()) {
+            ok("a row of a constant's length: " + rows.group(), rows.group(1).matches("(\\d+ \\* )?[A-Z_]+( \\+ \\d+)?"));
+        }
+    }
+
+    /** Rules 8 and 11: which method calls which, by name alone, so that no chain can be longer than it is found here. */
+    private static void depth(String code) {
+        Matcher heads = Pattern.compile("\n( {4,8})(?:[\\w\\[\\]]+ )*(\\w+)\\([^()]*\\) \\{\n").matcher(code);
+        Map<String, String> bodies = new TreeMap<>();
+        while (heads.find()) {
+            int close = code.indexOf("\n" + heads.group(1) + "}\n", heads.end() - 1);
+            bodies.merge(heads.group(2), code.substring(heads.end(), close), String::concat);
+        }
+        int most = 0;
+        for (String name : bodies.keySet()) {
+            int deep = deepest(name, bodies, new ArrayList<>());
+            ok("no recursion: " + name, deep > 0);
+            most = Math.max(most, deep);
+        }
+        ok("calls go " + most + " deep", most > 1 && most <= 8);
+    }
+
+    /** How many methods stand open at once below this one, with it; far below 0: one of them calls itself. */
+    private static int deepest(String name, Map<String, String> bodies, List<String> open) {
+        if (open.contains(name)) return -1000;
+        if (!bodies.containsKey(name)) return 1;
+        open.add(name);
+        int most = 0;
+        Matcher calls = Pattern.compile("\\b(\\w+)\\(").matcher(bodies.get(name));
+        while (calls.find() && most >= 0) {
+            int deep = deepest(calls.group(1), bodies, open);
+            most = deep < 0 ? deep : Math.max(most, deep);
+        }
+        open.remove(name);
+        return most + 1;
     }
 
     private static void lengths(String code) {
