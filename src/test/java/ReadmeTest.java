@@ -31,7 +31,9 @@ public final class ReadmeTest extends Sheet {
         about = "README.md, the example";
         Map<String, Method> face = face();
         Matcher block = Pattern.compile("(?s)```java\n(.*?)```").matcher(text);
-        due("there is an example", block.find() ? 1 : 0, 1);
+        boolean there = block.find();
+        due("there is an example", there ? 1 : 0, 1);
+        if (!there) return;
         RepeaterWires x = new RepeaterWires();
         int asked = 0;
         int linesWithCalls = 0;
@@ -74,7 +76,9 @@ public final class ReadmeTest extends Sheet {
         about = "README.md, the calls";
         for (Map.Entry<String, Method> one : face().entrySet()) {
             Matcher row = Pattern.compile("\\| `" + one.getKey() + "\\(([^)]*)\\)` \\|").matcher(text);
-            due(one.getKey() + " has a row", row.find() ? 1 : 0, 1);
+            boolean told = row.find();
+            due(one.getKey() + " has a row", told ? 1 : 0, 1);
+            if (!told) continue;
             int names = row.group(1).isBlank() ? 0 : row.group(1).split(",").length;
             due("numbers that " + one.getKey() + " takes", names, one.getValue().getParameterCount());
         }
